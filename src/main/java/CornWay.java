@@ -603,6 +603,20 @@ public final class CornWay {
             return besides[place * STEPS + step];
         }
 
+        /** The first STEP that can be of those from a told one on, in the order n e s w; NONE. */
+        private int stepThatCanBe(int place, int free, int from) {
+            if (from < 0 || !hasPlace(place) || (around[place] & free) == 0) {
+                return NONE;
+            }
+            for (int d = from; d < STEPS; d++) {
+                int to = besides[place * STEPS + d];
+                if (to >= 0 && (free >> to & 1) == 1) {
+                    return d;
+                }
+            }
+            return NONE;
+        }
+
         private boolean isBlind(int place, int free) {
             return !hasPlace(place) || (around[place] & free) == 0;
         }
@@ -724,9 +738,6 @@ public final class CornWay {
      * before those that go on from it, the one of no STEPS first.
      */
     private static final class Ways {
-        /** At each of 16 depths four STEPS are tried and one goes back: no turn needs more. */
-        private static final int MOST_TRIES = 100;
-
         private Field on;
         private int stepsBefore;
         private int mostDepth;
@@ -735,7 +746,7 @@ public final class CornWay {
         private final int[] at = new int[MOST_PLACES];
         private final int[] free = new int[MOST_PLACES];
         private final int[] broughtAt = new int[MOST_PLACES];
-        /** How many of the four STEPS have been tried at a depth: the last one is the one gone. */
+        /** How many of the four STEPS are done with at a depth: the last of these is the one gone. */
         private final int[] tried = new int[MOST_PLACES];
 
         private void from(Field f, int place, int most) {
@@ -769,20 +780,17 @@ public final class CornWay {
                 begun = true;
                 return true;
             }
-            for (int n = 0; n < MOST_TRIES; n++) {
-                if (depth >= mostDepth || tried[depth] >= STEPS) {
-                    if (depth == 0) {
-                        return false;
-                    }
-                    depth--;
-                } else {
-                    int to = on.beside(at[depth], tried[depth]);
-                    tried[depth]++;
-                    if (isIn(free[depth], to)) {
-                        goTo(to);
-                        return true;
-                    }
+            for (int n = 0; n < MOST_PLACES; n++) {
+                int step = depth < mostDepth ? on.stepThatCanBe(at[depth], free[depth], tried[depth]) : NONE;
+                if (step != NONE) {
+                    tried[depth] = step + 1;
+                    goTo(on.beside(at[depth], step));
+                    return true;
                 }
+                if (depth == 0) {
+                    return false;
+                }
+                depth--;
             }
             return false;
         }

@@ -136,6 +136,11 @@ public final class FieldsTest {
         for (int place = 0; place < ears.length; place++) {
             C.due("6: ears(" + place + ")", x.ears(place), ears[place]);
         }
+        Checks.write(x, "4#####");
+        C.due("6: sow() again, one ahead of stones", x.sow(), 1);
+        Checks.write(x, "#####4");
+        C.due("6: one behind stones", x.sow(), 1);
+        C.due("6: it begins there", x.told(4), 5);
         Checks.write(x, "111111");
         C.due("6: sow() again, over stones", x.sow(), 6);
         C.due("6: the beginning is the first", x.told(4), 0);
@@ -152,6 +157,7 @@ public final class FieldsTest {
         Checks.write(x, "1x3");
         C.due("6: a sign that can not stand", x.sow(), CornWay.NO);
         C.due("6: the pad stays", x.told(0), 3);
+        Checks.write(x, "###7");
         Checks.write(x, "###");
         C.due("6: all are stones", x.sow(), CornWay.STATE);
         C.due("6: the pad stays then too", x.told(0), 3);

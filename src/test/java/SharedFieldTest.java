@@ -69,6 +69,10 @@ public final class SharedFieldTest {
     }
 
     private static void promise19Where() {
+        CornWay v = new CornWay();
+        v.begin(1);
+        C.due("19: the first corner of 3 by 3", v.where(0), 0);
+        C.due("19: all nine from there", v.where(1), 9);
         CornWay x = Checks.sown(2, 3, "35#094");
         C.due("19: where(0)", x.where(0), 1);
         C.due("19: where(1)", x.where(1), 5);
@@ -185,6 +189,10 @@ public final class SharedFieldTest {
         x.begin(0);
         x.restore(1);
         C.due("24: the newer one is kept", x.told(4), 5);
+        x.field(5, 3);
+        x.restore(0);
+        x.begin(0);
+        C.due("24: steps lead as they led", x.all(-1), 52);
     }
 
     private static void lookAt(CornWay x, int[] told, int[] ears, String when) {
