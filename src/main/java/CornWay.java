@@ -440,8 +440,9 @@ public final class CornWay {
         for (int n = 0; n < MOST_WAYS && ways.next(); n++) {
             longestWay.offer(ways, ways.depth + 1);
             bestWay.offer(ways, ways.brought());
-            if (ways.leavesNothing()) {
-                allEnding[ways.end()]++;
+            int end = ways.end();
+            if (ways.leavesNothing() && corn.hasPlace(end)) {
+                allEnding[end]++;
             }
         }
         waysKnown = true;

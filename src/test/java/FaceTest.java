@@ -25,6 +25,7 @@ public final class FaceTest {
         constants();
         methods();
         constructorAndClass();
+        sizes();
         wordsOfTheSource(args.length > 0 ? args[0] : "src/main/java/CornWay.java");
         C.end();
     }
@@ -86,6 +87,30 @@ public final class FaceTest {
             C.holds(inside.getName() + " is static", Modifier.isStatic(inside.getModifiers()));
             C.holds(inside.getName() + " is not of the face",
                 !Modifier.isPublic(inside.getModifiers()) && !Modifier.isProtected(inside.getModifiers()));
+        }
+    }
+
+    /** Rules 5 and 11: a class's fields, a method's numbers, how many classes there are. */
+    private static void sizes() {
+        Class<?>[] inside = CornWay.class.getDeclaredClasses();
+        C.holds("at most twelve classes", inside.length < 12);
+        sizesOf(CornWay.class);
+        for (Class<?> each : inside) {
+            sizesOf(each);
+            C.due("classes inside " + each.getName(), each.getDeclaredClasses().length, 0);
+        }
+    }
+
+    private static void sizesOf(Class<?> type) {
+        int fields = 0;
+        for (Field f : type.getDeclaredFields()) {
+            fields += Modifier.isStatic(f.getModifiers()) ? 0 : 1;
+            C.holds(f + ", if static, is final",
+                !Modifier.isStatic(f.getModifiers()) || Modifier.isFinal(f.getModifiers()));
+        }
+        C.holds(type.getName() + " has at most twenty fields (" + fields + ")", fields <= 20);
+        for (Method m : type.getDeclaredMethods()) {
+            C.holds(m + " takes at most seven numbers", m.getParameterCount() <= 7);
         }
     }
 
